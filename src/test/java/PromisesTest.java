@@ -75,6 +75,7 @@ public final class PromisesTest {
         nobody();
         digests();
         afterAChange();
+        freshly();
         System.out.println(wrong == 0 ? asked + " answers as due" : wrong + " answers not as due");
         if (wrong != 0) {
             System.exit(1);
@@ -314,6 +315,12 @@ public final class PromisesTest {
         isPart("BLUR unheard", p -> x.heard(3, 3, p), 0, 1);
         isNo("BLUR no edge", p -> x.edge(3, 3, p), P_NONE);
         isPart("LATE heard", p -> x.heard(4, 2, p), 1, 5);
+        SoldNews pair = with("p40s2;3:60;1:20");
+        pair.news(3, 20);
+        isPart("BLUR of two cases", p -> pair.heard(0, 0, p), 13, 20);
+        isPart("BLUR of two cases", p -> pair.edge(0, 0, p), 220, 13);
+        isPart("BLUR of two cases", p -> pair.heard(0, 1, p), 7, 20);
+        isPart("BLUR of two cases", p -> pair.heard(0, 2, p), 0, 1);
         isPart("LATE edge", p -> x.edge(4, 0, p), 12, 1);
         isPart("LATE edge", p -> x.edge(4, 2, p), -15, 1);
         isNo("LATE no edge", p -> x.edge(4, 3, p), P_NONE);
@@ -441,6 +448,9 @@ public final class PromisesTest {
         isNo("beyond a LIMIT below", p -> x.makes(0, 0, 0 + 21, 1, p), P_OUTSIDE);
         isPart("at a LIMIT", p -> x.makes(0, 0, 5 + 42, 1, p), -3, 1);
         isPart("at a LIMIT below", p -> x.makes(0, 0, 1 + 0, 1, p), -27, 1);
+        SoldNews wide = two();
+        isPart("both sell three", p -> wide.makes(0, 0, 0, 1, p), -30, 1);
+        isPart("both buy three", p -> wide.makes(0, 0, 48, 1, p), -6, 1);
         for (int dealings : new int[] {49, 24 + 49, -1, LOW, HIGH}) {
             isNo("dealings outside", p -> x.makes(0, 0, dealings, 0, p), P_OUTSIDE);
             isNo("outside ahead of never", p -> x.makes(0, 3, dealings, 0, p), P_OUTSIDE);
@@ -902,6 +912,33 @@ public final class PromisesTest {
         is("refused", x.letters(-1), OUTSIDE);
         is("refused", x.change(0, 0, 9), OUTSIDE);
         is("refused changes nothing", x.digest(), before);
+    }
+
+    private static SoldNews fresh() {
+        SoldNews x = with("p100s1;1:130;3:70");
+        x.buyer(3, 0);
+        x.buyer(1, 0);
+        x.news(0, 0);
+        x.news(1, 0);
+        return x;
+    }
+
+    /** Each call as the first that is asked: no other has reckoned ahead of it. */
+    private static void freshly() {
+        is("rests", fresh().rests(1, 3, 0, 1), 6 + 28);
+        isPart("worth", p -> fresh().worth(1, 3, 0, p), 78, 1);
+        is("whom", fresh().whom(1, 0), 3);
+        is("plainly", fresh().plainly(0), 1);
+        is("more", fresh().more(1, 1), 1);
+        isPart("pledge", p -> fresh().pledge(1, 1, p), 26, 1);
+        is("on", fresh().on(1, 1, 1), 1);
+        isPart("shut", p -> fresh().shut(1, 0, p), 3, 1);
+        isPart("wrongly", p -> fresh().wrongly(1, 3, 0, 1, 0, p), -102, 1);
+        is("shown", fresh().shown(1, 3), 2);
+        isPart("thought", p -> fresh().thought(1, 3, 1, p), 70, 1);
+        is("run", fresh().run(1, 3, 1, 10, 1), 40);
+        is("digest", fresh().digest(), mix(100, 1, 1, 130, 3, 70, 3, 0, 1, 0,
+            0, 0, 0 + 14, NONE, NONE, NONE, 1, 0, 6 + 28, 0 + 14, NONE, NONE, 104, 1, 2, 2, 2, 0, 0));
     }
 
     /** What was dealt ahead of a change tells nothing of what is dealt behind it. */
