@@ -1,62 +1,5 @@
 /** Each promise of the document by answers reckoned by hand: ordinary ones, edges, refusals and their order. */
-public final class PromisesTest {
-    private static final int NONE = -1, UNKNOWN = -101, OUTSIDE = -102, STATE = -103, FULL = -104;
-    private static final long P_UNKNOWN = -1000000000000000001L, P_OUTSIDE = -1000000000000000002L;
-    private static final long P_STATE = -1000000000000000003L, P_NONE = -1000000000000000004L;
-    private static final int LOW = Integer.MIN_VALUE, HIGH = Integer.MAX_VALUE;
-    private static int wrong = 0;
-    private static int asked = 0;
-
-    private static void is(String what, long got, long want) {
-        asked++;
-        if (got != want) {
-            wrong++;
-            System.out.println(what + " answered " + got + ", due is " + want);
-        }
-    }
-
-    private interface Part {
-        long of(int part);
-    }
-
-    private static void isPart(String what, Part got, long above, long below) {
-        is(what + " above", got.of(0), above);
-        is(what + " below", got.of(1), below);
-    }
-
-    /** A refusal told for any part that is one. */
-    private static void isNo(String what, Part got, long no) {
-        is(what, got.of(0), no);
-        is(what, got.of(1), no);
-    }
-
-    private static void isOutside(String what, Part got) {
-        for (int part : new int[] {-1, 2, LOW, HIGH}) {
-            is(what + " part " + part, got.of(part), P_OUTSIDE);
-        }
-    }
-
-    private static int write(SoldNews x, String text) {
-        int size = x.count(3);
-        for (int from = 0; from < text.length(); from += 8) {
-            long w = 0;
-            for (int i = Math.min(text.length(), from + 8) - 1; i >= from; i--) {
-                w = w << 8 | text.charAt(i);
-            }
-            size = x.letters(w);
-        }
-        return size;
-    }
-
-    private static SoldNews with(String text) {
-        SoldNews x = new SoldNews();
-        write(x, text);
-        if (x.market() < 1) {
-            throw new IllegalStateException(text);
-        }
-        return x;
-    }
-
+public final class PromisesTest extends Checks {
     public static void main(String[] args) {
         theMarket();
         theFaults();
@@ -76,10 +19,7 @@ public final class PromisesTest {
         digests();
         afterAChange();
         freshly();
-        System.out.println(wrong == 0 ? asked + " answers as due" : wrong + " answers not as due");
-        if (wrong != 0) {
-            System.exit(1);
-        }
+        end();
     }
 
     /** Promises 1, 2, 3, 5, 6, 27. */
@@ -770,10 +710,6 @@ public final class PromisesTest {
         is("unknown ahead of state", s.run(0, 9, 0, 1, 0), UNKNOWN);
         s.news(0, 0);
         is("state ahead of outside", s.run(0, 9, 0, 1, 0), STATE);
-    }
-
-    private static long next(long seed) {
-        return (1103515245L * seed + 12345L) % 2147483648L;
     }
 
     private static long blurred(long seed, int n, int cases) {
