@@ -472,13 +472,24 @@ public final class DealingBoundsTest extends Checks {
         isPart("all know", p -> x.pledge(0, 15, p), 0, 1);
         x.change(3, 1, 1);
         x.change(2, 0, 2);
-        is("the last that makes most", x.more(0, 0), 0);
+        is("as much and less", x.more(0, 0), 0);
         x.change(0, 1, 2);
         x.change(1, 1, 2);
         is("the last makes most", x.more(0, 0), 3);
         isPart("the last makes most", p -> x.pledge(0, 0, p), 138, 1);
         x.change(3, 1, 2);
         is("the least of like ones", x.more(0, 0), 0);
+        says("above 0: by a hundredth");
+        // LATE by 99 hundredths: EDGE 101 hundredths, of which one step makes one.
+        SoldNews little = of("p100s1;1:201", 3, 0);
+        little.news(4, 99);
+        is("one more", little.more(0, 0), 0);
+        isPart("pledge", p -> little.pledge(0, 0, p), 1, 100);
+        is("whom", little.whom(0, 0), 1);
+        is("whom at one price", little.whom(0, 1), 1);
+        little.news(4, 100);
+        is("none more", little.more(1, 0), NONE);
+        is("nobody", little.whom(1, 0), 0);
     }
 
     /** Promise 20. */
@@ -602,6 +613,13 @@ public final class DealingBoundsTest extends Checks {
         SoldNews two = of("p100s1;1:130;1:140;1:70", 3, 0);
         two.news(1, 0);
         is("3, 3 and -3", two.shown(0, 1), 2);
+        two.news(2, 3 + 2 * 4 + 3 * 16);
+        // GROUP 2 of 140: 3 steps; GROUP 3 of 130 and 70: none, but that is not as of SIGNS 0 and 1.
+        is("SIGNS 2 and 3", two.shown(1, 1), 2);
+        is("SIGNS 2 and 3, nobody dealing", two.shown(1, 0), 1);
+        isPart("thought, nobody dealing", p -> two.thought(1, 0, 3, p), 340, 3);
+        is("nobody deals", one.shown(1, 0), 1);
+        isPart("thought, nobody dealing", p -> one.thought(1, 0, 3, p), 130, 1);
         says("STEPS together, not of each");
         // EDGE 0: one buys a step, one sells one; EDGE 1: a step of SLOPE 2 makes less than none.
         SoldNews each = of("p100s2;1:100;1:101", 1, 0, 1, 0);
