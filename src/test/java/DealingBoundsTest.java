@@ -17,6 +17,7 @@ public final class DealingBoundsTest extends Checks {
         fortySales();
         oneMore();
         whoTells();
+        allOthersOfAll();
         shutOut();
         toldWrongly();
         shown();
@@ -275,6 +276,17 @@ public final class DealingBoundsTest extends Checks {
         isPart("of LATE that is too late", p -> x.worth(2, 1, 0, p), 0, 1);
         x.news(4, 0);
         isPart("of LATE that is not late", p -> x.worth(3, 1, 0, p), 4, 1);
+        SoldNews blur = blurOfFour();
+        // 0, 16, 58 and 147 of 15, each a fourth of the times.
+        isPart("of a BLUR", p -> blur.worth(0, 1, 0, p), 221, 60);
+        isPart("of a BLUR, not of the SET", p -> blur.worth(0, 0, 0, p), 0, 1);
+    }
+
+    /** By 40 hundredths: EDGES -4 / 15, 31 / 15, 59 / 15 and 94 / 15: 0, 1, 2, 3 steps. */
+    private static SoldNews blurOfFour() {
+        SoldNews x = of("p100s1;1:96;1:101;1:105;1:110", 3, 0);
+        x.news(3, 40);
+        return x;
     }
 
     private static void worthNothing() {
@@ -535,6 +547,30 @@ public final class DealingBoundsTest extends Checks {
         is("the least one", y.on(0, 2, 1), 0);
     }
 
+    /** Promises 18, 19, 20: of four BUYERS and eight NEWS, all of which are worth much, and were reckoned before. */
+    private static void allOthersOfAll() {
+        says("ONE MORE: of the others; ON: another j, not of it");
+        SoldNews x = of("p500s1;1:900;1:100", 3, 0, 3, 0, 3, 0, 3, 0);
+        for (int i = 0; i < 8; i++) {
+            x.news(i % 2 == 0 ? 1 : 4, i);
+        }
+        x.plainly(0);
+        for (int news = 0; news < 8; news++) {
+            int k = news;
+            is("all know news " + news, x.more(news, 15), NONE);
+            isPart("all know news " + news, p -> x.pledge(k, 15, p), 0, 1);
+            is("all know news " + news, x.on(news, 15, 0), NONE);
+            is("all know news " + news, x.on(news, 15, 1), NONE);
+            is("nobody knows news " + news, x.on(news, 0, 0), NONE);
+            for (int set = 1; set < 15; set++) {
+                int least = Integer.numberOfTrailingZeros(~set);
+                is("the least not of " + set, x.more(news, set), least);
+                is("the least of " + set, x.on(news, set, 0), Integer.numberOfTrailingZeros(set));
+                is("the least not of " + set, x.on(news, set, 1), least);
+            }
+        }
+    }
+
     /** Promise 21. */
     private static void shutOut() {
         says("SHUT OUT: what a BUYER MAKES more when it knows alone than when all know");
@@ -640,10 +676,9 @@ public final class DealingBoundsTest extends Checks {
         says("THOUGHT: what VALUE is on an average (over all SIGNS that look like it)");
         SoldNews x = of("p100s1;1:100;2:102;3:104;4:106", 3, 0);
         x.news(1, 0);
-        int[] values = {100, 102, 104, 106};
         for (int sign = 0; sign < 4; sign++) {
             int s = sign;
-            isPart("unlike " + s, p -> x.thought(0, 1, s, p), values[s], 1);
+            isPart("unlike " + s, p -> x.thought(0, 1, s, p), 100 + 2 * s, 1);
             isPart("nobody deals " + s, p -> x.thought(0, 0, s, p), 104, 1);
         }
         x.change(0, 0, 2);
@@ -667,6 +702,13 @@ public final class DealingBoundsTest extends Checks {
         // SIGN 0: 1 by 80 and 3 by 20: 130 by 80 and 90 by 60.
         isPart("a BLUR", p -> blur.thought(0, 1, 0, p), 790, 7);
         isPart("a BLUR, nobody dealing", p -> blur.thought(0, 0, 0, p), 100, 1);
+        SoldNews wide = blurOfFour();
+        isPart("four alike, nobody dealing", p -> wide.thought(0, 0, 3, p), 103, 1);
+        int[] values = {1496, 1531, 1559, 1594};
+        for (int sign = 0; sign < 4; sign++) {
+            int k = sign;
+            isPart("four unlike: " + k, p -> wide.thought(0, 1, k, p), values[k], 15);
+        }
     }
 
     /** Promise 25. */
@@ -798,9 +840,7 @@ public final class DealingBoundsTest extends Checks {
 
     private static void drawsOfABlur() {
         says("of a BLUR a DRAW of 100: if it is less than n, another CASE is heard: a DRAW of CASES less 1: the so many-th other");
-        // By 40 hundredths: EDGES -4 / 15, 31 / 15, 59 / 15 and 94 / 15: 0, 1, 2, 3 steps.
-        SoldNews x = of("p100s1;1:96;1:101;1:105;1:110", 3, 0);
-        x.news(3, 40);
+        SoldNews x = blurOfFour();
         for (int sign = 0; sign < 4; sign++) {
             is("dealt for SIGN " + sign, x.rests(0, 1, sign, 1), 3 + sign);
         }
