@@ -37,10 +37,10 @@ public final class SoldNews {
         page = new Page();
         market = new Market();
         draft = new Market();
-        buyers = new Buyers();
         all = new News[MOST_NEWS];
         hearing = new Hearing();
-        deals = new Deals(buyers);
+        deals = new Deals();
+        buyers = deals.buyers;
         draws = new Seed();
         settled = new boolean[MOST_NEWS * SETS];
         dealt = new int[MOST_NEWS * SETS * SIGNS];
@@ -1072,19 +1072,15 @@ public final class SoldNews {
         }
     }
 
-    /** All dealings of a set for what was heard, one behind the other by their numbers. */
+    /** Those who may deal, and all dealings of a set of them for what was heard, one behind the other by their numbers. */
     private static final class Deals {
-        private final Buyers buyers;
+        private final Buyers buyers = new Buyers();
         private final int[] steps = new int[MOST_BUYERS];
         private int together;
         private int set;
         private long weight;
         private long edge;
         private int slope;
-
-        Deals(Buyers buyers) {
-            this.buyers = buyers;
-        }
 
         void begin(Hearing heard, int atSlope, int ofSet) {
             weight = heard.weight;
